@@ -50,8 +50,8 @@ public final class RandomRunsTest {
         Object got = REAL.get(name).invoke(real, args);
         Object want = MODEL.get(name).invoke(model, args);
         told.add(name + java.util.Arrays.toString(args) + " " + got);
-        ANSWERS.merge(name + (want.toString().startsWith("-") ? " " + (want.toString().length() > 2 ? "-.." : want) : " +"),
-                1, Integer::sum);
+        String sort = !want.toString().startsWith("-") ? "+" : want.toString().length() > 2 ? "-.." : want.toString();
+        ANSWERS.merge(name + " " + sort, 1, Integer::sum);
         if (got.equals(want)) {
             return true;
         }
@@ -374,12 +374,30 @@ public final class RandomRunsTest {
         return ok;
     }
 
+    /** Any numbers at all, most of them far out, in a palace and without one. */
+    private boolean runWild() throws Exception {
+        int[] wild = {Integer.MIN_VALUE, Integer.MAX_VALUE, -2, -1, 0, 0, 1, 1, 2, 3, 4, 16, 31, 32, 33, 255, 256, 1 << 28};
+        boolean ok = below(4) == 0 || tape(palaceText(true)) && call("palace");
+        while (ok && budget > 60) {
+            String name = CALLS[below(CALLS.length)];
+            Class<?>[] types = REAL.get(name).getParameterTypes();
+            Object[] values = new Object[types.length];
+            for (int i = 0; i < values.length; i++) {
+                int value = below(5) == 0 ? random.nextInt() : wild[below(wild.length)];
+                values[i] = types[i] == boolean.class ? (Object) (value > 0) : (Object) value;
+            }
+            ok = call(name, values);
+        }
+        return ok;
+    }
+
     public static void main(String[] args) throws Exception {
         int runs = args.length > 0 ? Integer.parseInt(args[0]) : 300;
         long base = args.length > 1 ? Long.parseLong(args[1]) : 1;
         for (int k = 0; k < runs; k++) {
             RandomRunsTest run = new RandomRunsTest(1000003 * base + k);
-            if (!(k % 4 == 3 ? run.runTexts() : run.runCalls())) {
+            boolean ok = k % 8 == 5 ? run.runWild() : k % 4 == 3 ? run.runTexts() : run.runCalls();
+            if (!ok) {
                 System.out.println("run " + k + " failed");
                 System.exit(1);
             }
