@@ -363,7 +363,7 @@ public final class WalkingRooms {
         if (what < 3) {
             return partOf(walks[k], what);
         }
-        return laws.faults + now.floor.gain(walks[k]);
+        return now.floor.mismatches() + now.floor.gain(walks[k]);
     }
 
     private static int partOf(int walk, int what) {
@@ -1693,6 +1693,8 @@ public final class WalkingRooms {
         private House house = null;
         private Floor floor = null;
         private int[] rule = null;
+        // MISMATCHES are dear to count; without a law of meeting and a RULE nobody asks for them.
+        private boolean counts = false;
         int night = 0;
         int faults = 0;
         private int after = 0;
@@ -1702,13 +1704,14 @@ public final class WalkingRooms {
             this.house = house;
             this.floor = floor;
             this.rule = rule;
+            counts = house.law != 0 || rule != null;
             night = house.nights;
             look();
         }
 
         /** To be called when the floor has become another one. */
         void look() {
-            faults = floor == null ? 0 : floor.mismatches();
+            faults = counts && floor != null ? floor.mismatches() : 0;
         }
 
         /** The number of the first law that a WALK breaks; 0 if it may be. */
@@ -1724,6 +1727,9 @@ public final class WalkingRooms {
             }
             if (!floor.canGo(walk)) {
                 return LAW_PLACE;
+            }
+            if (!counts) {
+                return 0;
             }
             after = faults + floor.gain(walk);
             if (house.law == NO_MORE && after > faults || house.law == NO_MISMATCH && after > 0) {
@@ -2137,7 +2143,7 @@ public final class WalkingRooms {
                     }
                     laws.night++;
                 }
-                drawnMismatches += laws.faults;
+                drawnMismatches += floor.mismatches();
                 drawnMeetings += floor.doorToDoor(one, other) ? 1 : 0;
             }
         }

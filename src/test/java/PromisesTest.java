@@ -144,6 +144,19 @@ public final class PromisesTest {
         due("NUMBER", Texts.palace(x, "floor 00002 00003"), 0);
         due("sign and number", Texts.palace(x, "floor2 2;room 11111 0"), 1);
         due("cell", x.room(0, 0), 1);
+        for (int k = 0; k < 3; k++) {
+            due("with KEYS and NIGHTS", Texts.palace(x, HALLS), 3);
+            due("KEYS", x.room(0, 7), 2);
+            due("rest()", x.rest(), 1);
+            due("fix", x.fix(1, true), true);
+            due("rest()", x.rest(), 2);
+            due("a smaller one", Texts.palace(x, "floor 1 1"), 0);
+            due("without them", Texts.palace(x, "floor 2 2;room .... 0 0;room .... 1 0"), 2);
+            due("KEYS", x.room(0, 7), 0);
+            due("fixed", x.room(1, 6), 0);
+            due("undo()", x.undo(), -2);
+            due("EMPTY", x.at(0, 1), NONE);
+        }
         palaceFaults();
         palaceLimits();
     }
@@ -237,6 +250,8 @@ public final class PromisesTest {
         ruleFault("bar 1", 5, 0);
         ruleFault("bar z=1", 4, 0);
         ruleFault("bar notx=1", 4, 0);
+        ruleFault("bar xz=1", 4, 0);
+        ruleFault("bar xa=1", 4, 0);
         ruleFault("bar -1=1", 4, 0);
         ruleFault("bar x=", 6, 0);
         ruleFault("bar x= =1", 7, 0);
@@ -403,6 +418,13 @@ public final class PromisesTest {
         mismatches("floor 2 2;room d... 1 1;room .d.. 0 1", 2, 0, 1, 1);
         mismatches("floor 2 2;room d... 1 1;room .... 0 1", 1, 1, 1, 0);
         mismatches("floor 3 3;room dddd 1 1", 4, 1, 1, 0);
+        WalkingRooms x = with("floor 2 1;room d... 0 0;room ...d 1 0");
+        x.walk(3, 0, 0);
+        due("turned door to door", x.mismatch(0), 0);
+        x.walk(3, 0, 0);
+        x.walk(3, 0, 0);
+        due("turned away", x.mismatch(0), 2);
+        due("FIRST", x.mismatch(3), 1);
     }
 
     private static void p12() {
@@ -582,6 +604,8 @@ public final class PromisesTest {
         barred("after=4", walk(3, 2, 0), left);
         barred("after<faults", left, walk(3, 2, 0));
         barred("room=5;bar kind=2", change, turn);
+        barred("kind=2;bar room=5", change, turn);
+        barred("kind=2;bar room=5;bar room=6", change, turn);
     }
 
     private static void arithmeticOfRules() {
@@ -649,6 +673,15 @@ public final class PromisesTest {
         x.draft(0);
         x.almanac(3, 0, 0);
         due("count(9) is not touched by these", x.count(9), 1);
+        x = with("floor 2 1;room dddd 0 0");
+        for (int k = 1; k <= 21; k++) {
+            due("to and fro", x.walk(1, 0, k % 2 == 1 ? 1 : 3), k);
+        }
+        for (int k = 19; k >= 0; k--) {
+            due("undo()", x.undo(), k);
+            due("where it was", x.room(0, 0), (k + 1) % 2);
+            due("MISMATCHES of it alone", x.mismatch(0), 4);
+        }
     }
 
     private static void p19() {
@@ -791,6 +824,36 @@ public final class PromisesTest {
         due("night is as now", x.nights(0), 3);
         x.rest();
         due("night is as now", x.nights(0), -2);
+        // faults are those of each SITUATION.
+        x = with("floor 2 1;room ...d 1 0;room .d.. 0 0", "bar faults=1");
+        x.draft(0);
+        x.redraw(0, 3, 0, 0);
+        x.redraw(0, 3, 0, 0);
+        due("faults of then", x.nights(0), 2);
+        x.law(1);
+        due("no more than then", x.nights(0), -2);
+        x = with("floor 2 1;room .d.. 1 0;room .d.. 0 0;ways 4", "bar faults=0 or room=1");
+        x.draft(0);
+        x.redraw(0, 3, 0, 0);
+        x.redraw(0, 3, 0, 0);
+        due("to where there are none", x.nights(0), 2);
+        x.redraw(0, 3, 0, 0);
+        due("but not on from there", x.nights(0), -2);
+        x = with("floor 2 1;room .d.. 1 0;room .... 0 0;ways 4");
+        x.draft(0);
+        x.redraw(0, 3, 0, 0);
+        x.redraw(0, 3, 0, 0);
+        x.law(1);
+        due("as many", x.nights(0), 2);
+        x.brick(1, 1, 1);
+        x.fix(1, true);
+        due("no more, from two on to none", x.nights(0), 2);
+        x.redraw(0, 3, 0, 0);
+        due("never more again", x.nights(0), -2);
+        x.draft(1);
+        due("one DRAFT", x.nights(0), -2);
+        due("and the other", x.nights(1), 0);
+        due("and the one", x.nights(0), -2);
         nightsAtTheLimit();
     }
 
@@ -1049,6 +1112,13 @@ public final class PromisesTest {
         x = with("floor 1 1;room d... 0 0;ways 4", "bar faults=2 or after=0");
         x.almanac(3, 0, 0);
         due("faults of then", x.would(0, 1, 1), 1);
+        x = with("floor 2 1;room .d.. 1 0;room .d.. 0 0;ways 4", "bar faults=0");
+        x.almanac(3, 0, 0);
+        x.almanac(3, 0, 0);
+        x.almanac(3, 0, 0);
+        due("two MISMATCHES now", x.mismatch(0), 2);
+        due("faults of then", x.would(0, 3, 1), 2);
+        due("left out", x.would(0, 3, 2), 1);
     }
 
     private static void p33() {
@@ -1123,6 +1193,20 @@ public final class PromisesTest {
         due("left out, still there", x.beds(0), 1);
         x.wish(0, 2, 1, 0);
         due("an EMPTY CELL", x.beds(0), 0);
+        x.wish(NONE, 0, 0, 0);
+        x.wish(0, 3, 0, 0);
+        due("there is a ROOM, but no such NIGHT", x.beds(0), 0);
+        for (int k = 3; k <= 10; k++) {
+            x.almanac(1, 2, k % 2 == 1 ? 0 : 2);
+        }
+        due("now there is", x.beds(0), 2);
+        x.wish(0, 10, 0, 1);
+        due("but not him", x.beds(0), 0);
+        x.wish(NONE, 0, 0, 0);
+        x.wish(1, 9, 1, 0);
+        x.wish(1, 10, 1, 1);
+        due("the last NIGHT", x.beds(0), 2);
+        due("the last NIGHT", x.beds(2), 2);
         due("no PEOPLE", with("floor 1 1;room .... 0 0").beds(0), 1);
         due("no PEOPLE", with("floor 1 1;room .... 0 0").beds(1), -2);
         due("too many PEOPLE", with("floor 1 1;room .... 0 0;person 0;person 0").beds(0), 0);
@@ -1188,6 +1272,9 @@ public final class PromisesTest {
         x.brick(0, 1, 4);
         due("another locked door, of the same ROOM", x.drift(0), 2);
         due("and it meets", x.drift(2), 2);
+        due("the lower edge", with("floor 4 4;room 1... 1 3").drift(0), 0);
+        due("the right edge", with("floor 4 4;room 1... 3 1").drift(0), 0);
+        due("the upper edge", with("floor 4 4;room 1... 1 0").drift(0), 0);
         x = with("floor 3 3;room d1.. 1 1;room dd.. 0 0");
         due("of several the least", x.drift(1), 0);
         due("drift(0)", x.drift(0), 1);
@@ -1263,6 +1350,11 @@ public final class PromisesTest {
         x.rest();
         x.force(0);
         due("night is as now", x.how(1, 0), 0);
+        // Two MISMATCHES now, none behind one TURN: from there on no WALK may be.
+        x = with("floor 2 1;room .d.. 1 0;room .d.. 0 0;ways 4", "bar faults=0 or room=1");
+        due("faults of then", x.how(1, 0), 1);
+        due("faults of then", x.how(2, 0), 1);
+        due("faults of then", x.how(3, 0), 0);
     }
 
     private static void p41() {
@@ -1430,8 +1522,10 @@ public final class PromisesTest {
         due("side", x.room(1, 2), 1);
         due("key", x.room(0, 7), 2);
         due("sleeps(0)", x.sleeps(0), 0);
+        due("sleeps(1)", x.sleeps(1), 2);
         due("fixed", x.room(0, 6), 0);
         due("drafted(2, 0, 1)", x.drafted(2, 0, 1), 0);
+        due("drafted(2, 2, 0)", x.drafted(2, 2, 0), 5);
         due("would(0, 1, 1)", x.would(0, 1, 1), 0);
         due("undo()", x.undo(), 0);
         due("at(1, 0)", x.at(1, 0), 2);
@@ -1444,6 +1538,23 @@ public final class PromisesTest {
         due("count(6)", x.count(6), 2);
         due("back(0)", x.back(0), 1);
         due("can() > 0", x.can() > 0, true);
+        x = with("floor 2 1;room d... 0 0;person 0");
+        x.walk(3, 0, 0);
+        x.draft(0);
+        x.walk(3, 0, 0);
+        x.walk(3, 0, 0);
+        x.image(2);
+        Texts.palace(x, "floor 2 2;room .... 0 0");
+        x.walk(1, 0, 1);
+        x.walk(1, 0, 2);
+        x.back(2);
+        due("turns", x.room(0, 1), 3);
+        due("turns of the DRAFT", x.drafted(0, 0, 1), 1);
+        due("undo()", x.undo(), 2);
+        due("turns", x.room(0, 1), 2);
+        due("undo()", x.undo(), 1);
+        due("turns", x.room(0, 1), 1);
+        due("cell", x.room(0, 0), 0);
     }
 
     /** What a dear question found out must not outlive what it was found out by. */
@@ -1490,6 +1601,22 @@ public final class PromisesTest {
         due("behind woke", x.how(1, 0), 1);
         x.draft(1);
         due("another DRAFT", x.nights(1), 0);
+        x.redraw(1, 3, 0, 0);
+        due("behind redraw", x.nights(1), 1);
+        x.draft(1);
+        due("behind draft", x.nights(1), 0);
+        x.woke(NONE, 0, 0);
+        due("behind woke", x.how(1, 0), 2);
+        x.woke(0, 1, 0);
+        due("behind woke", x.how(1, 0), 1);
+        x.woke(NONE, 0, 0);
+        due("behind woke", x.how(1, 0), 2);
+        due("palace", Texts.palace(x, "floor 1 1;room .... 0 0"), 1);
+        due("behind palace", x.how(1, 0), 1);
+        due("behind a wrong palace", Texts.palace(x, "floor"), -43);
+        due("behind a wrong palace", x.how(1, 0), 1);
+        due("another length", x.how(0, 0), 1);
+        due("another length", x.how(1, 3), 1);
     }
 
     public static void main(String[] args) {
