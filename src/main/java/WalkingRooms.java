@@ -2093,7 +2093,6 @@ public final class WalkingRooms {
             }
             int[] list = lists[level];
             int many = laws.list(list);
-            int faults = laws.faults;
             for (int k = 0; k < many; k++) {
                 places[level] = k;
                 floor.go(list[k]);
@@ -2102,7 +2101,6 @@ public final class WalkingRooms {
                 }
                 goRows(house, level + 1, length);
                 floor.goBack(list[k]);
-                laws.faults = faults;
             }
         }
 
