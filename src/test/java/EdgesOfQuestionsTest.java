@@ -469,24 +469,43 @@ public final class EdgesOfQuestionsTest {
             Due.is("one more", x.beds(0), nights < 10 ? 0 : 1);
             x.almanac(3, 0, 0);
         }
+        Due.says("For RULES night is as it would be in ALMANACS (each lies where his ROOM is then)");
+        x = with("floor 3 1;room .... 0 0;room .... 2 0;person 0", "bar night=1 or night=4 or faults=9");
+        int[] ways = {1, 1, 3, 1};
+        int[] places = {0, 1, 1, 0, 1};
+        for (int k = 0; k < 4; k++) {
+            Due.is("almanac", x.almanac(1, 0, ways[k]), k + 1);
+        }
+        for (int nights = 0; nights <= 4; nights++) {
+            for (int cell = 0; cell < 2; cell++) {
+                x.wish(NONE, 0, 0, 0);
+                x.wish(0, nights, cell, 0);
+                Due.is(nights + " NIGHTS, CELL " + cell, x.beds(0), cell == places[nights] ? 1 : 0);
+                Due.is("would", x.would(0, nights, 0), places[nights]);
+            }
+        }
+        x.rest();
+        x.wish(NONE, 0, 0, 0);
+        x.wish(0, 1, 0, 0);
+        Due.is("the first WALK is left out now", x.beds(1), 0);
         Due.says("ROOMS for all PEOPLE, unlike ones");
         for (int rooms = 0; rooms <= 4; rooms++) {
             for (int people = 0; people <= 6 && (rooms > 0 || people == 0); people++) {
                 StringBuilder palace = new StringBuilder("floor 4 1");
-                int ways = 1;
+                int many = 1;
                 for (int room = 0; room < rooms; room++) {
                     palace.append(";room .... ").append(room).append(" 0");
                 }
                 for (int person = 0; person < people; person++) {
                     palace.append(";person 0");
-                    ways *= rooms - person;
+                    many *= rooms - person;
                 }
                 x = with(palace.toString());
-                Due.is(palace + " beds(0)", x.beds(0), ways);
+                Due.is(palace + " beds(0)", x.beds(0), many);
                 for (int person = 0; person < 6; person++) {
-                    boolean has = person < people && ways > 0;
+                    boolean has = person < people && many > 0;
                     Due.is(palace + " beds(" + (person + 1) + ")", x.beds(person + 1), has ? person : -2);
-                    int some = person >= people ? NONE : ways > 0 ? ways / rooms : 0;
+                    int some = person >= people ? NONE : many > 0 ? many / rooms : 0;
                     Due.is(palace + " almost(" + person + ", 0)", x.almost(person, 0), rooms > 0 ? some : NONE);
                 }
             }
