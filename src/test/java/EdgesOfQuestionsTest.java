@@ -212,7 +212,9 @@ public final class EdgesOfQuestionsTest {
                 int nights = order.get(k).nights;
                 Due.is(palace + ", the DRAFT comes as number " + k, x.nights(2), k <= 1500 ? nights : -3);
                 Due.is("behind its ROW", x.row(2, nights, 0), k <= 1500 ? -2 : -3);
-                Due.is("far behind its ROW", x.row(2, 1500, 0), k <= 1500 ? -2 : -3);
+                for (int far : new int[] {nights + 1, nights + 2, 99, 1499, 1500, Integer.MAX_VALUE}) {
+                    Due.is("far behind its ROW", x.row(2, far, 0), k <= 1500 ? -2 : -3);
+                }
                 Due.is("ahead of it", x.row(2, -1, 0), NONE);
                 if (k <= 1500) {
                     goAlong(x, order.get(k));
